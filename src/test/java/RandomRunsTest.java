@@ -16,6 +16,7 @@ public final class RandomRunsTest {
     private static final Map<String, Method[]> METHODS = new HashMap<>();
     private static final Map<String, Integer> SEEN = new TreeMap<>();
     private static int wrong = 0;
+    private static int mostCorners = 0;
 
     private final Random random;
     private final HotGames real = new HotGames();
@@ -24,6 +25,7 @@ public final class RandomRunsTest {
     private final int taste;
     private final List<String> calls = new ArrayList<>();
     private boolean failed = false;
+    private int limit = CALLS;
 
     private RandomRunsTest(long seed) {
         this.seed = seed;
@@ -44,6 +46,7 @@ public final class RandomRunsTest {
         }
         if (args.length > 2) {
             SEEN.forEach((k, v) -> System.out.println(k + " " + v));
+            System.out.println("most corners of a wall: " + mostCorners);
         }
         System.out.println(wrong == 0 ? "random runs: all answers are as due" : "random runs: " + wrong + " wrong");
         if (wrong != 0) {
@@ -63,6 +66,42 @@ public final class RandomRunsTest {
         while (calls.size() < CALLS && !failed) {
             step();
         }
+        audit();
+    }
+
+    /** Asks for all that is told of all games; HotGames does not mind more than 512 calls. */
+    private void audit() {
+        limit = Integer.MAX_VALUE;
+        for (int g = 0; g < due.games() && !failed; g++) {
+            call("write", g);
+            call("isCold", g);
+            for (int h = 0; h < due.games(); h++) {
+                call("compare", g, h);
+            }
+            for (int side = 0; side < 2; side++) {
+                auditSide(g, side);
+            }
+        }
+        for (int first = 0; first < 2; first++) {
+            for (int strategy = 0; strategy < 16; strategy++) {
+                call("advice", first, strategy / 4);
+                call("play", first, strategy / 4, strategy % 4);
+            }
+        }
+    }
+
+    private void auditSide(int g, int side) {
+        for (int i = 0; i < due.options(g, side); i++) {
+            call("dominated", g, side, i);
+            call("reversible", g, side, i);
+        }
+        call("wall", g, side, below(8000));
+        int corner = 0;
+        for (int i = 0; corner != HotGames.NONE && !failed; i++) {
+            call("corner", g, side, i);
+            corner = due.corner(g, side, i);
+            mostCorners = Math.max(mostCorners, i);
+        }
     }
 
     private int below(int n) {
@@ -74,10 +113,15 @@ public final class RandomRunsTest {
     }
 
     private void step() {
+        if (due.games() > 37 && chance(15)) {
+            for (int k = 1 + below(6); k > 0; k--) {
+                call("undo");
+            }
+        }
         int what = below(100);
-        if (what < 22) {
+        if (what < 29) {
             buildSomething();
-        } else if (what < 30) {
+        } else if (what < (taste == 1 ? 39 : 30)) {
             typeSomething();
         } else if (what < 70) {
             ask();
@@ -113,6 +157,9 @@ public final class RandomRunsTest {
     /** Mostly drafts with great left and small right options, which are hot more often. */
     private void draftWhole() {
         boolean hot = chance(75);
+        if (chance(80)) {
+            call("clearDraft");
+        }
         for (int side = 0; side < 2; side++) {
             int n = hot ? 1 + below(3) : below(5);
             for (int k = 0; k < n; k++) {
@@ -299,8 +346,13 @@ public final class RandomRunsTest {
         }
     }
 
+    /** Mostly one of all games; some runs like the latest ones, which are the deepest. */
     private int game() {
-        return chance(3) ? below(60) - 10 : below(due.games());
+        int count = due.games();
+        if (taste == 2 && count > 12 && chance(60)) {
+            return count - 1 - below(count - 10);
+        }
+        return chance(3) ? below(60) - 10 : below(count);
     }
 
     private int side() {
@@ -312,7 +364,7 @@ public final class RandomRunsTest {
     }
 
     private void call(String name, int... args) {
-        if (failed || calls.size() >= CALLS) {
+        if (failed || calls.size() >= limit) {
             return;
         }
         Object[] boxed = new Object[args.length];
@@ -326,8 +378,9 @@ public final class RandomRunsTest {
         Object want = answer(pair[1], due, boxed);
         calls.add(shown + " -> " + got);
         SEEN.merge(name + (want instanceof String ? " " + want : ""), 1, Integer::sum);
-        long sum = real.checksum();
-        long sumDue = due.checksum();
+        boolean sums = limit == CALLS;
+        long sum = sums ? real.checksum() : 0;
+        long sumDue = sums ? due.checksum() : 0;
         if (!got.equals(want) || sum != sumDue) {
             failed = true;
             wrong++;

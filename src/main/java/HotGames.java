@@ -450,9 +450,10 @@ public final class HotGames {
     }
 
     private static boolean contains(long set, int game) {
-        return (set & bit(game)) != 0L;
+        return (set >>> game & 1L) != 0L;
     }
 
+    /** Turns what is good for a side into what is great. */
     private static int signOf(int side) {
         return side == LEFT ? 1 : -1;
     }
@@ -525,25 +526,21 @@ public final class HotGames {
 
         static int lengthOfNumber(int n) {
             int sign = n < 0 ? 1 : 0;
-            int size = n < 0 ? -n : n;
-            if (size % 8 == 0) {
-                return sign + 1;
-            }
-            // the numerator in lowest terms is odd; two digits from 10 on, then "/" and one digit
-            int numerator = size / lowestBit(size);
-            return sign + (numerator < 10 ? 3 : 4);
+            int halved = halvings(n);
+            int numerator = (n < 0 ? -n : n) >> halved;
+            return sign + (numerator < 10 ? 1 : 2) + (halved < 3 ? 2 : 0);
         }
     }
 
-    /** The greatest power of 2, up to 8, that divides a number of eighths. */
-    private static int lowestBit(int eighths) {
+    /** How often a fraction of eighths can be reduced by 2: three times if it is an integer. */
+    private static int halvings(int eighths) {
         if (eighths % 8 == 0) {
-            return 8;
+            return 3;
         }
         if (eighths % 4 == 0) {
-            return 4;
+            return 2;
         }
-        return eighths % 2 == 0 ? 2 : 1;
+        return eighths % 2 == 0 ? 1 : 0;
     }
 
     /** All games, their comparison and their walls. */
@@ -751,7 +748,7 @@ public final class HotGames {
         }
 
         boolean isAtLeast(int g, int h) {
-            return contains(below[g], h);
+            return (below[g] >>> h & 1L) != 0L;
         }
 
         /** Tells whether a player of a side likes one game at least as well as another. */
@@ -789,11 +786,11 @@ public final class HotGames {
 
         /** The options of a number need not be games, so they are compared as numbers. */
         private static boolean isReversibleNumber(Game game, int side, int eighths) {
-            boolean whole = eighths % 8 == 0;
-            if (whole && signOf(side) * eighths >= 0) {
+            int halved = halvings(eighths);
+            if (halved == 3 && signOf(side) * eighths >= 0) {
                 return false;
             }
-            int reply = (eighths + signOf(side) * lowestBit(eighths)) * EIGHTH;
+            int reply = (eighths + signOf(side) * (1 << halved)) * EIGHTH;
             return side == LEFT ? game.isAtLeastNumber(reply) : game.isAtMostNumber(reply);
         }
 
@@ -1446,15 +1443,15 @@ public final class HotGames {
             if (eighths < 0) {
                 put('-');
             }
-            int parts = lowestBit(eighths);
-            int numerator = (eighths < 0 ? -eighths : eighths) / parts;
+            int halved = halvings(eighths);
+            int numerator = (eighths < 0 ? -eighths : eighths) >> halved;
             if (numerator >= 10) {
                 put((char) ('0' + numerator / 10));
             }
             put((char) ('0' + numerator % 10));
-            if (parts < 8) {
+            if (halved < 3) {
                 put('/');
-                put((char) ('0' + 8 / parts));
+                put((char) ('0' + (8 >> halved)));
             }
         }
 

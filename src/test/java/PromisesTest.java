@@ -36,6 +36,7 @@ public final class PromisesTest {
         promise33Read();
         promise34And35Write();
         promise36Undo();
+        promise36NumbersAgain();
         promise37Checksum();
         check.end();
     }
@@ -652,7 +653,7 @@ public final class PromisesTest {
         HotGames x = new HotGames();
         Object[][] due = {
             {"", 0}, {"   ", 3}, {"0", NONE}, {" 0 ", NONE}, {"star", NONE}, {"up", NONE}, {"down", NONE},
-            {"stars", 0}, {"sta", 0}, {"starup", 0}, {"star up", 5}, {"Star", 0}, {"sTar", 0}, {"st ar", 0},
+            {"stars", 0}, {"sta", 0}, {"starup", 0}, {"star up", 5}, {"Star", 0}, {"sTar", 0}, {"st ar", 0}, {"starz", 0}, {"az", 0},
             {"{", 1}, {"{|", 2}, {"{|}", NONE}, {" { | } ", NONE}, {"{|}}", 3}, {"{}", 1}, {"{||}", 2}, {"{,|}", 1},
             {"{1,|}", 3}, {"{1 2|}", 3}, {"{1|2,}", 5}, {"{1|,2}", 3}, {"{1|2", 4}, {"{1|2|3}", 4}, {"{1,2}", 4},
             {"|", 0}, {"}", 0}, {",", 0}, {"/", 0}, {"!", 0}, {"1!", 1}, {"1 ~", 2}, {"{1|A}", 3}, {"1,2", 1},
@@ -773,6 +774,31 @@ public final class PromisesTest {
         check.is("the text stays", y.clearText(), 1);
         check.is("the log stays", Check.playedOf(y), "0 100");
         check.is("the draft stays", y.clearDraft(), 3);
+    }
+
+    /** A number of a game that is given again tells nothing of the game that had it before. */
+    private static void promise36NumbersAgain() {
+        HotGames x = new HotGames();
+        String[] texts = {"{1|-1,star}", "{0|1}", "3", "{2,up|-1}", "-3", "{star|}", "{up|0,star}", "5/8"};
+        for (String text : texts) {
+            HotGames fresh = new HotGames();
+            int game = Check.read(x, text);
+            check.is(text + " again", game, Check.read(fresh, text));
+            for (int g = 0; g <= game; g++) {
+                check.is(text + " again, compared", x.compare(game, g), fresh.compare(game, g));
+                check.is(text + " again, turned", x.compare(g, game), fresh.compare(g, game));
+            }
+            check.is(text + " again, cold", x.isCold(game), fresh.isCold(game));
+            check.is(text + " again, depth", x.depth(game), fresh.depth(game));
+            check.is(text + " again, written", Check.write(x, game), Check.write(fresh, game));
+            x.add(game);
+            fresh.add(game);
+            check.is(text + " again, size", x.size(), fresh.size());
+            check.is(text + " again, best", x.best(LEFT), fresh.best(LEFT));
+            check.is(text + " again, checksum", x.checksum(), fresh.checksum());
+            x.undo();
+            x.undo();
+        }
     }
 
     private static void promise37Checksum() {

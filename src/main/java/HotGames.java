@@ -796,7 +796,7 @@ public final class HotGames {
 
         /** Sets the walls at t of the games of a set that holds the options of its hot games. */
         void sweep(long set, int t) {
-            for (int g = 0; g < MAX_GAMES; g++) {
+            for (int g = 0; g < count; g++) {
                 if (contains(set, g)) {
                     Game game = games[g];
                     boolean frozen = game.cold || t >= game.temperature;

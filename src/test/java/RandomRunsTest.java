@@ -13,6 +13,7 @@ import java.util.TreeMap;
  */
 public final class RandomRunsTest {
     private static final int CALLS = 512;
+    private static final int[] EXTREMES = {Integer.MIN_VALUE, Integer.MAX_VALUE, -1, 40, 64, 1 << 16, 1 << 30};
     private static final Map<String, Method[]> METHODS = new HashMap<>();
     private static final Map<String, Integer> SEEN = new TreeMap<>();
     private static int wrong = 0;
@@ -366,6 +367,9 @@ public final class RandomRunsTest {
     private void call(String name, int... args) {
         if (failed || calls.size() >= limit) {
             return;
+        }
+        if (args.length > 0 && limit == CALLS && chance(1)) {
+            args[below(args.length)] = EXTREMES[below(EXTREMES.length)];
         }
         Object[] boxed = new Object[args.length];
         StringBuilder shown = new StringBuilder(name);

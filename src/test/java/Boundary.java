@@ -203,7 +203,8 @@ final class Boundary {
 
     private static String state(HotGames x) {
         StringBuilder all = new StringBuilder();
-        all.append(x.checksum()).append(' ').append(x.games()).append(' ').append(x.fault()).append(' ').append(x.size());
+        all.append(x.checksum()).append(' ').append(x.games());
+        all.append(' ').append(x.fault()).append(' ').append(x.size());
         for (int c = 0; c < x.components(); c++) {
             all.append(' ').append(x.component(c));
         }

@@ -190,7 +190,8 @@ final class GameBoundaries {
         b.is("64", new HotGames().number(64), 10);
         for (int wrong : new int[] {-65, 65, -66, 128, -128, 256, 264, 1 << 25, 65536, MIN, MIN + 1, MAX, MAX - 63}) {
             b.refused("number(" + wrong + ")", Check.ARGUMENT, y -> y.number(wrong));
-            b.refused("number(" + wrong + ") where there are 40", Check.ARGUMENT, Boundary.full(40), y -> y.number(wrong));
+            b.refused("number(" + wrong + ") where there are 40", Check.ARGUMENT, Boundary.full(40),
+                y -> y.number(wrong));
         }
     }
 
@@ -277,13 +278,15 @@ final class GameBoundaries {
     }
 
     private void makeRefused() {
-        b.sentence(6, "Throws `IllegalStateException` if its depth would be greater than 6, or if it has to be made, but"
+        b.sentence(6,
+            "Throws `IllegalStateException` if its depth would be greater than 6, or if it has to be made, but"
             + " there are 40 games");
         HotGames deep = Boundary.made(DEEP);
         deep.draft(LEFT, 13);
         deep.draft(RIGHT, 13);
         b.is("depth 6", deep.depth(deep.make()), 6);
-        b.refused("depth 7 by a left option", Check.STATE, Boundary.both(DEEP, y -> y.draft(LEFT, 14)), HotGames::make);
+        b.refused("depth 7 by a left option", Check.STATE, Boundary.both(DEEP, y -> y.draft(LEFT, 14)),
+            HotGames::make);
         Boundary.Setup mixed = Boundary.both(DEEP, y -> {
             FULL_DRAFT.on(y);
             y.clearDraft();
@@ -309,7 +312,8 @@ final class GameBoundaries {
     private void negativeOfNoGame() {
         b.sentence(7, "Throws `IndexOutOfBoundsException` if there is no such game");
         b.gameRefused("negative", Boundary.NEW, (x, game) -> x.negative(game));
-        b.vanishedGameRefused("negative", (x, game) -> x.games() == 40 && game == 39 ? x.negative(0) : x.negative(game));
+        b.vanishedGameRefused("negative",
+            (x, game) -> x.games() == 40 && game == 39 ? x.negative(0) : x.negative(game));
         b.refused("no game where there are 40", Check.INDEX, Boundary.full(40), x -> x.negative(40));
     }
 
@@ -332,7 +336,8 @@ final class GameBoundaries {
     }
 
     private void negativesOfParts() {
-        b.sentence(7, "First the negatives of all other games of which it is composed (its options, their options and so"
+        b.sentence(7,
+            "First the negatives of all other games of which it is composed (its options, their options and so"
             + " on) are made, in ascending order of these games.");
         HotGames x = Boundary.made(DEEP);
         b.is("the parts of depth 6 and itself", x.negative(14), 18);

@@ -54,6 +54,7 @@ final class TableBoundaries {
         coldComponents();
         positions();
         atMost4000();
+        greatestScores();
         strategyZero();
         hotstrat();
         greedy();
@@ -65,11 +66,13 @@ final class TableBoundaries {
         moveOfNoComponent();
         moveOfNoOption();
         moveOfColdComponent();
+        sizeOfLargeTable();
         bestRefused();
         adviceRefused();
         adviceOfColdComponents();
         playRefused();
         playOfLargeTable();
+        strategiesOfBoth();
         playLeavesTheTable();
         played();
     }
@@ -77,7 +80,8 @@ final class TableBoundaries {
     // ---- terms
 
     private void noneToFourComponents() {
-        b.sentence(0, "The table has 0 to 4 components, numbered from 0, each of which is a game (the same game can occur"
+        b.sentence(0,
+            "The table has 0 to 4 components, numbered from 0, each of which is a game (the same game can occur"
             + " several times).");
         HotGames x = Boundary.made(EMPTY);
         b.is("no component", x.components(), 0);
@@ -110,7 +114,8 @@ final class TableBoundaries {
     }
 
     private void positions() {
-        b.sentence(0, "The positions of a component are its game and, if that is hot, the positions of all its options."
+        b.sentence(0,
+            "The positions of a component are its game and, if that is hot, the positions of all its options."
             + " The size of the table is the product, over all components, of the numbers of different positions (1"
             + " without components).");
         b.is("no component", Boundary.made(EMPTY).size(), 1);
@@ -150,6 +155,23 @@ final class TableBoundaries {
         b.is("can be asked for", y.play(LEFT, 3, 3), y.best(LEFT));
     }
 
+    private void greatestScores() {
+        b.sentence(0, "Left wants a great score, Right a small one.");
+        HotGames x = new HotGames();
+        String high = "{{{{{{8|}|}|}|}|}|}";
+        String low = "{|{|{|{|{|{|-8}}}}}}";
+        Check.lay(x, high, high, high, high);
+        b.is("four games of 14", x.best(LEFT), 4 * 14 * 1024);
+        b.is("played", x.play(RIGHT, 0, 0), 4 * 14 * 1024);
+        Check.lay(x, low, low, low, low);
+        b.is("four games of -14", x.best(RIGHT), -4 * 14 * 1024);
+        b.is("played", x.play(LEFT, 3, 3), -4 * 14 * 1024);
+        x = new HotGames();
+        Check.lay(x, "{{{{{{8|}|}|}|}|}|{|{|{|{|{|-8}}}}}}");
+        b.is("Left takes 13", x.best(LEFT), 13 * 1024);
+        b.is("Right takes -13", x.best(RIGHT), -13 * 1024);
+    }
+
     private void strategyZero() {
         b.sentence(0, "0 The lowest hot component, and the option with the lowest number.");
         HotGames x = new HotGames();
@@ -161,7 +183,8 @@ final class TableBoundaries {
     }
 
     private void hotstrat() {
-        b.sentence(0, "1 (hotstrat) The hot component with the greatest temperature t, of several the lowest one; of its"
+        b.sentence(0,
+            "1 (hotstrat) The hot component with the greatest temperature t, of several the lowest one; of its"
             + " options for Left the one with the greatest right wall at this t, for Right the one with the least left"
             + " wall at this t, of several the one with the lowest number.");
         HotGames x = new HotGames();
@@ -181,6 +204,7 @@ final class TableBoundaries {
         // at the temperature 3 the right wall of {8|0} is 3, at 0 it would be 0
         Check.lay(x, "{2,{8|0}|-3}");
         b.is("the temperature", x.temperature(x.component(0)), 3072);
+        b.is("the right wall of {8|0} at 0", x.wall(x.option(x.component(0), LEFT, 1), RIGHT, 0), 0);
         b.is("the wall at this t", x.advice(LEFT, 1), 1);
         Check.lay(x, "{3|-2,{0|-8}}");
         b.is("the wall at this t, Right", x.advice(RIGHT, 1), 1);
@@ -191,7 +215,8 @@ final class TableBoundaries {
     }
 
     private void greedy() {
-        b.sentence(0, "2 (greedy) Of all moves the one that changes the sum of the means most in favour of the player (for"
+        b.sentence(0,
+            "2 (greedy) Of all moves the one that changes the sum of the means most in favour of the player (for"
             + " Left the new mean minus the old one, for Right the old one minus the new one), of several the one with"
             + " the lowest component, of these the one with the lowest number of the option.");
         HotGames x = new HotGames();
@@ -325,6 +350,21 @@ final class TableBoundaries {
         b.is("the component is hot again", x.move(0, LEFT, 0), 1);
     }
 
+    private void sizeOfLargeTable() {
+        b.sentence(25, "Returns the size of the table.");
+        HotGames x = Boundary.made(SIZE_4002);
+        int large = x.component(3);
+        Check.lay(x);
+        for (int c = 0; c < 4; c++) {
+            x.add(large);
+        }
+        b.is("four components of 29 positions", x.size(), 29 * 29 * 29 * 29);
+        b.refused("its optimal score", Check.STATE, Boundary.both(SIZE_4002, y -> {
+            y.remove(0);
+            y.add(large);
+        }), y -> y.best(LEFT));
+    }
+
     private void bestRefused() {
         b.sentence(26, "Throws `IllegalArgumentException` if first is neither 0 nor 1");
         b.sideRefused("best", Boundary.NEW, (x, first) -> x.best(first));
@@ -348,14 +388,16 @@ final class TableBoundaries {
             b.refused("strategy " + strategy + " for nothing", Check.ARGUMENT, EMPTY, x -> x.advice(RIGHT, strategy));
         }
         b.refused("no player for a large table", Check.ARGUMENT, SIZE_4002, x -> x.advice(-1, 3));
-        b.sentence(27, "Throws `IllegalStateException` if strategy is 3 and the size of the table is greater than 4000");
+        b.sentence(27,
+            "Throws `IllegalStateException` if strategy is 3 and the size of the table is greater than 4000");
         for (int player = LEFT; player <= RIGHT; player++) {
             int good = player;
             b.refused("size 4002", Check.STATE, SIZE_4002, x -> x.advice(good, 3));
             b.is("size 4000", Boundary.throwsNothing(SIZE_4000, x -> x.advice(good, 3)), true);
             for (int strategy = 0; strategy < 3; strategy++) {
                 int other = strategy;
-                b.is("size 4002 and another strategy", Boundary.throwsNothing(SIZE_4002, x -> x.advice(good, other)), true);
+                b.is("size 4002 and another strategy", Boundary.throwsNothing(SIZE_4002, x -> x.advice(good, other)),
+                    true);
             }
         }
     }
@@ -387,12 +429,14 @@ final class TableBoundaries {
             b.refused("left " + strategy, Check.ARGUMENT, logged, x -> x.play(LEFT, strategy, 0));
             b.refused("right " + strategy, Check.ARGUMENT, logged, x -> x.play(RIGHT, 0, strategy));
             b.refused("left " + strategy + " for nothing", Check.ARGUMENT, EMPTY, x -> x.play(LEFT, strategy, 0));
-            b.refused("right " + strategy + " where nobody moves", Check.ARGUMENT, EMPTY, x -> x.play(LEFT, 0, strategy));
+            b.refused("right " + strategy + " where nobody moves", Check.ARGUMENT, EMPTY,
+                x -> x.play(LEFT, 0, strategy));
         }
         for (int k = 0; k < 16; k++) {
             int left = k / 4;
             int right = k % 4;
-            b.is("strategies " + left + " and " + right, Boundary.throwsNothing(logged, x -> x.play(LEFT, left, right)), true);
+            b.is("strategies " + left + " and " + right,
+                Boundary.throwsNothing(logged, x -> x.play(LEFT, left, right)), true);
         }
         b.refused("no player and a large table", Check.ARGUMENT, SIZE_4002, x -> x.play(2, 3, 3));
         b.refused("no strategy of Left and a large table", Check.ARGUMENT, SIZE_4002, x -> x.play(LEFT, 4, 3));
@@ -400,7 +444,8 @@ final class TableBoundaries {
     }
 
     private void playOfLargeTable() {
-        b.sentence(28, "Throws `IllegalStateException` if one of the strategies is 3 and the size of the table is greater"
+        b.sentence(28,
+            "Throws `IllegalStateException` if one of the strategies is 3 and the size of the table is greater"
             + " than 4000");
         Boundary.Setup logged = Boundary.both(x -> x.play(LEFT, 2, 1), SIZE_4002);
         for (int first = LEFT; first <= RIGHT; first++) {
@@ -416,8 +461,23 @@ final class TableBoundaries {
         }
     }
 
+    private void strategiesOfBoth() {
+        b.sentence(28, "the strategy of Left, 0 to 3");
+        HotGames x = new HotGames();
+        Check.lay(x, "{1|-1}", "{2|-2}", "{5|-5}");
+        b.is("Left takes 5, Right -1, Left 2", x.play(LEFT, 1, 0), 6 * 1024);
+        b.is("its moves", Check.playedOf(x), "200 0 100");
+        b.sentence(28, "the strategy of Right, 0 to 3");
+        b.is("Left takes 1, Right -5, Left 2", x.play(LEFT, 0, 1), -2 * 1024);
+        b.is("its moves", Check.playedOf(x), "0 200 100");
+        b.sentence(28, "who moves first: 0 Left, 1 Right");
+        b.is("Right takes -5, Left 1, Right -2", x.play(RIGHT, 0, 3), -6 * 1024);
+        b.is("its moves", Check.playedOf(x), "200 0 100");
+    }
+
     private void playLeavesTheTable() {
-        b.sentence(28, "Plays the table to its end; the table itself does not change. The moves are kept as the log of the"
+        b.sentence(28,
+            "Plays the table to its end; the table itself does not change. The moves are kept as the log of the"
             + " latest play.");
         HotGames x = Boundary.made(FOUR);
         long before = x.checksum();

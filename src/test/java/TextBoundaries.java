@@ -19,6 +19,7 @@ final class TextBoundaries {
         denominators();
         numbersUpTo8();
         spaces();
+        everyCharacter();
         plusMinusTogether();
         firstWrongToken();
         behindPlus();
@@ -34,11 +35,13 @@ final class TextBoundaries {
         clearText();
         fault();
         readOfFault();
+        readBehindFault();
         readOfFiveOptions();
         readOfDepthSeven();
         readWithoutRoom();
         textStays();
         writeRefused();
+        longestWithEveryNumber();
         writtenKept();
         written();
     }
@@ -76,19 +79,21 @@ final class TextBoundaries {
     private void names() {
         b.sentence(0, "A name is one of star, up, down.");
         faults("star", NONE, "up", NONE, "down", NONE, "sta", 0, "stars", 0, "u", 0, "upp", 0, "dow", 0, "downs", 0,
-            "STAR", 0, "Up", 0, "zero", 0, "rats", 0, "updown", 0, "s", 0, "{star|stars}", 6);
+            "STAR", 0, "Up", 0, "zero", 0, "rats", 0, "updown", 0, "s", 0, "{star|stars}", 6, "upz", 0, "upa", 0,
+            "ztar", 0, "stat", 0, "xp", 0, "town", 0, "dowm", 0, "az", 0);
     }
 
     private void digits() {
         b.sentence(0, "Digits are one or two digits; the first of two is not 0.");
-        faults("0", NONE, "9/2", NONE, "10/2", NONE, "16/2", NONE, "00", 0, "01", 0, "09/8", 0, "010/8", 0, "100/8", 0,
-            "000", 0, "-01", 1, "+-08", 2, "0/2", NONE, "{10/4|00}", 6);
+        faults("0", NONE, "9/2", NONE, "10/2", NONE, "16/2", NONE, "00", 0, "01", 0, "09/8", 0, "010/8", 0,
+            "100/8", 0, "000", 0, "-01", 1, "+-08", 2, "0/2", NONE, "{10/4|00}", 6);
     }
 
     private void denominators() {
         b.sentence(0, "A denominator is 2, 4 or 8 (fractions need not be in lowest terms).");
-        faults("1/0", 2, "1/1", 2, "1/2", NONE, "1/3", 2, "1/4", NONE, "1/5", 2, "1/6", 2, "1/7", 2, "1/8", NONE, "1/9", 2,
-            "1/16", 2, "1/02", 2, "1/20", 2, "1/84", 2, "2/2", NONE, "4/8", NONE, "64/8", NONE, "1/up", 2, "1/-2", 2);
+        faults("1/0", 2, "1/1", 2, "1/2", NONE, "1/3", 2, "1/4", NONE, "1/5", 2, "1/6", 2, "1/7", 2, "1/8", NONE,
+            "1/9", 2, "1/16", 2, "1/02", 2, "1/20", 2, "1/84", 2, "2/2", NONE, "4/8", NONE, "64/8", NONE, "1/up", 2,
+            "1/-2", 2);
         HotGames x = new HotGames();
         b.is("2/2", Check.read(x, "2/2"), 1);
         b.is("16/8", Check.read(x, "16/8"), 6);
@@ -98,8 +103,9 @@ final class TextBoundaries {
 
     private void numbersUpTo8() {
         b.sentence(0, "A number has to be from -8 to 8.");
-        faults("8", NONE, "-8", NONE, "9", 0, "-9", 1, "8/2", NONE, "16/2", NONE, "-16/2", NONE, "17/2", 3, "-17/2", 4,
-            "32/4", NONE, "33/4", 3, "64/8", NONE, "65/8", 3, "-65/8", 4, "+-8", NONE, "+-9", 2, "+-64/8", NONE, "+-65/8", 5);
+        faults("8", NONE, "-8", NONE, "9", 0, "-9", 1, "8/2", NONE, "16/2", NONE, "-16/2", NONE, "17/2", 3,
+            "-17/2", 4, "32/4", NONE, "33/4", 3, "64/8", NONE, "65/8", 3, "-65/8", 4, "+-8", NONE, "+-9", 2,
+            "+-64/8", NONE, "+-65/8", 5);
         HotGames x = new HotGames();
         b.is("64/8", x.value(Check.read(x, "64/8")), 8192);
         b.is("-64/8", x.value(Check.read(x, "-64/8")), -8192);
@@ -107,13 +113,26 @@ final class TextBoundaries {
     }
 
     private void spaces() {
-        b.sentence(0, "Spaces may stand before, between and after the tokens, which are the names (sequences of letters a"
+        b.sentence(0,
+            "Spaces may stand before, between and after the tokens, which are the names (sequences of letters a"
             + " to z, as long as possible), digits (as long as possible), and the single characters + - / { | } and , (a"
             + " comma)");
-        faults(" 0", NONE, "0 ", NONE, "  star  ", NONE, "- 1", NONE, "1 / 2", NONE, " - 16 / 2 ", NONE, "+-  8", NONE,
-            " { 0 , star | up } ", NONE, " { | } ", NONE, "{ -1/ 2 | +- 1 /8 }", NONE, "1 6/2", 2, "st ar", 0, "u p", 0,
-            "1 2", 2, "1/1 6", 2, "star0", 4, "0star", 1, "upup", 0, "up up", 3, "{0 1|}", 3);
+        faults(" 0", NONE, "0 ", NONE, "  star  ", NONE, "- 1", NONE, "1 / 2", NONE, " - 16 / 2 ", NONE,
+            "+-  8", NONE, " { 0 , star | up } ", NONE, " { | } ", NONE, "{ -1/ 2 | +- 1 /8 }", NONE, "1 6/2", 2,
+            "st ar", 0, "u p", 0, "1 2", 2, "1/1 6", 2, "star0", 4, "0star", 1, "upup", 0, "up up", 3, "{0 1|}", 3);
         faults("@", 0, "`", 0, "{0|z}", 3, "[", 0, "A", 0, ":", 0, "{0|/}", 3, ".", 0, "~", 0, "*", 0, "1:", 1);
+    }
+
+    private void everyCharacter() {
+        b.sentence(0, "or of a character that begins no token");
+        for (char c = 32; c <= 126; c++) {
+            boolean begins = c == '+' || c == '-' || c == '{' || c == ' ';
+            boolean digit = c >= '0' && c <= '8';
+            faults("" + c, begins ? 1 : digit ? NONE : 0);
+            faults(" {" + c, begins || digit || c == '|' ? 3 : 2);
+            faults("{|} " + c, c == ' ' ? NONE : 4);
+            faults("1/" + c, c == '2' || c == '4' || c == '8' ? NONE : c == ' ' ? 3 : 2);
+        }
     }
 
     private void plusMinusTogether() {
@@ -122,50 +141,57 @@ final class TextBoundaries {
     }
 
     private void firstWrongToken() {
-        b.sentence(0, "The fault of the text is the index of the first character of the first token that is not allowed at"
+        b.sentence(0,
+            "The fault of the text is the index of the first character of the first token that is not allowed at"
             + " its place, or of a character that begins no token.");
-        faults("}", 0, "|", 0, ",", 0, "/", 0, "/2", 0, "1/2/2", 3, "1|2", 1, "1,2", 1, "1}", 1, "1{", 1, "1+", 1, "1-", 1,
-            "1 star", 2, "star{", 4, "--1", 1, "-star", 1, "-up", 1, "-{|}", 1, "-+-1", 1, "+--1", 2, "+-star", 2, "+-{|}", 2);
+        faults("}", 0, "|", 0, ",", 0, "/", 0, "/2", 0, "1/2/2", 3, "1|2", 1, "1,2", 1, "1}", 1, "1{", 1, "1+", 1,
+            "1-", 1, "1 star", 2, "star{", 4, "--1", 1, "-star", 1, "-up", 1, "-{|}", 1, "-+-1", 1, "+--1", 2,
+            "+-star", 2, "+-{|}", 2);
         faults("{}", 1, "{,|}", 1, "{0,|}", 3, "{0,,1|}", 3, "{0}", 2, "{||}", 2, "{|,}", 2, "{|0,}", 4, "{|0|}", 3,
-            "{|}}", 3, "{|}0", 3, "{|}{|}", 3, "{{|}", 4, "{{|}}", 4, "{0|1};", 5, "{0 |1 } ?", 8, "!", 0, "   !", 3);
+            "{|}}", 3, "{|}0", 3, "{|}{|}", 3, "{{|}", 4, "{{|}}", 4, "{0|1};", 5, "{0 |1 } ?", 8, "!", 0,
+            "   !", 3);
     }
 
     private void behindPlus() {
         b.sentence(0, "Directly behind \"+\" a \"-\" has to follow (otherwise the fault is the index behind \"+\").");
-        faults("+", 1, "++", 1, "+1", 1, "+star", 1, "+ ", 1, "+ -1", 1, "+!", 1, "{0|+", 4, "{0|+}", 4, "  +", 3, "  + -", 3);
+        faults("+", 1, "++", 1, "+1", 1, "+star", 1, "+ ", 1, "+ -1", 1, "+!", 1, "{0|+", 4, "{0|+}", 4, "  +", 3,
+            "  + -", 3);
         faults(" ".repeat(79) + "+", 80, " ".repeat(78) + "+-", 80, " ".repeat(77) + "+-0", NONE);
     }
 
     private void wrongDigits() {
         b.sentence(0, "Digits that are more than two, or two with a first 0, are a fault at the digits.");
-        faults("100", 0, "000/2", 0, "123", 0, "-100", 1, "+-100", 2, "{1|100}", 3, "00", 0, "05", 0, "05/8", 0, "-00", 1,
-            "1/008", 2, "1/08", 2, "1/100", 2, "1".repeat(80), 0, "{ 012", 2, "99/8", 3);
+        faults("100", 0, "000/2", 0, "123", 0, "-100", 1, "+-100", 2, "{1|100}", 3, "00", 0, "05", 0, "05/8", 0,
+            "-00", 1, "1/008", 2, "1/08", 2, "1/100", 2, "1".repeat(80), 0, "{ 012", 2, "99/8", 3);
     }
 
     private void numbersAbove8() {
         b.sentence(0, "A number without a denominator that is greater than 8 is a fault at its digits, one with a"
             + " denominator that is greater than 8 a fault at its denominator.");
-        faults("9", 0, " 9", 1, "-9", 1, "- 9", 2, "+-9", 2, "10", 0, "99", 0, "9 ", 0, "9}", 0, "{9|}", 1, "{0,10|}", 3);
-        faults("9/2", NONE, "17/2", 3, "17 / 2", 5, "33/4", 3, "65/8", 3, "99/8", 3, "-17/2", 4, "+-65/8", 5, "{17/2", 4);
+        faults("9", 0, " 9", 1, "-9", 1, "- 9", 2, "+-9", 2, "10", 0, "99", 0, "9 ", 0, "9}", 0, "{9|}", 1,
+            "{0,10|}", 3);
+        faults("9/2", NONE, "17/2", 3, "17 / 2", 5, "33/4", 3, "65/8", 3, "99/8", 3, "-17/2", 4, "+-65/8", 5,
+            "{17/2", 4);
         faults("10/", 3, "10/3", 3, "10/x", 3, "99/ ", 4);
     }
 
     private void endsTooEarly() {
         b.sentence(0, "The fault is the length of the text if the text ends too early.");
-        faults("", 0, " ", 1, "-", 1, "+-", 2, "1/", 2, "{", 1, "{0", 2, "{0,", 3, "{0|", 3, "{0|1", 4, "{0|1,", 5, "{|", 2,
-            "{{|}|", 5, "{{|}|{|}", 8, "- ", 2, "{ ", 2, "{0|1 ", 5, "1 / ", 4, "{-", 2, "{|+-", 4);
+        faults("", 0, " ", 1, "-", 1, "+-", 2, "1/", 2, "{", 1, "{0", 2, "{0,", 3, "{0|", 3, "{0|1", 4, "{0|1,", 5,
+            "{|", 2, "{{|}|", 5, "{{|}|{|}", 8, "- ", 2, "{ ", 2, "{0|1 ", 5, "1 / ", 4, "{-", 2, "{|+-", 4);
         faults(" ".repeat(80), 80, "{".repeat(80), 80, "{|".repeat(40), 80, "{0," + " ".repeat(77), 80);
         faults("{|".repeat(26) + "}".repeat(25), 77, "{|".repeat(26) + "}".repeat(26), NONE);
     }
 
     private void lowestIndex() {
         b.sentence(0, "If there are several, the lowest index counts.");
-        faults("9!", 0, "!9", 0, "00 00", 0, "{9|9", 1, "{1|9", 3, "17/2 9", 3, "stars stars", 0, "}{", 0, "+ +", 1, "1 !", 2,
-            "{100|!", 1, "9 /3", 3, "9/3!", 2);
+        faults("9!", 0, "!9", 0, "00 00", 0, "{9|9", 1, "{1|9", 3, "17/2 9", 3, "stars stars", 0, "}{", 0, "+ +", 1,
+            "1 !", 2, "{100|!", 1, "9 /3", 3, "9/3!", 2);
     }
 
     private void namedGames() {
-        b.sentence(0, "star is the game with the left option 0 and the right option 0, up has the left option 0 and the"
+        b.sentence(0,
+            "star is the game with the left option 0 and the right option 0, up has the left option 0 and the"
             + " right option star, down the left option star and the right option 0, and +-x has the left option x and"
             + " the right option -x.");
         HotGames x = new HotGames();
@@ -194,24 +220,42 @@ final class TextBoundaries {
     }
 
     private void writing() {
-        b.sentence(0, "a number as an integer or as p/q in lowest terms, with \"-\" if it is negative; a composed game as"
+        b.sentence(0,
+            "a number as an integer or as p/q in lowest terms, with \"-\" if it is negative; a composed game as"
             + " \"{\", its left options, \"|\", its right options, \"}\", with \",\" between two options, in the order of"
             + " their numbers, without spaces");
-        String[] due = {"0", "1", "8", "-8", "1/8", "-1/8", "63/8", "-63/8", "1/4", "31/4", "-31/4", "1/2", "15/2", "-15/2"};
+        String[] due = {"0", "1", "8", "-8", "1/8", "-1/8", "63/8", "-63/8", "1/4", "31/4", "-31/4", "1/2", "15/2",
+            "-15/2"};
         for (String text : due) {
             HotGames x = new HotGames();
             int game = Check.read(x, text);
             b.is("the length of " + text, x.write(game), text.length());
             b.is("the number " + text, Check.writtenOf(x), text);
         }
-        String[] games = {"{|}", "{0|}", "{|0}", "{0|0}", "{0,1,-1,2|0,1,-1,2}", "{-8,-63/8|63/8,8}", "{{|},{{|}|}|}"};
+        for (int n = -64; n <= 64; n++) {
+            HotGames x = new HotGames();
+            b.is(n + " eighths", Check.write(x, x.number(n)), numberText(n));
+        }
+        String[] games = {"{{{{{{|}|}|}|}|}|}", "{|{|{|{|{|{|-63/8}}}}}}", "{|}", "{0|}", "{|0}", "{0|0}",
+            "{0,1,-1,2|0,1,-1,2}", "{-8,-63/8|63/8,8}", "{{|},{{|}|}|}"};
         for (String text : games) {
             HotGames x = new HotGames();
             b.is("the game " + text, Check.write(x, Check.read(x, text)), text);
         }
         HotGames x = new HotGames();
         b.is("4/8", Check.write(x, Check.read(x, "4/8")), "1/2");
-        b.is("in the order of their numbers", Check.write(x, Check.read(x, "{ 2 , 0 , 2 | 1 , star , 0 }")), "{0,2|0,1,{0|0}}");
+        b.is("in the order of their numbers", Check.write(x, Check.read(x, "{ 2 , 0 , 2 | 1 , star , 0 }")),
+            "{0,2|0,1,{0|0}}");
+    }
+
+    private static String numberText(int eighths) {
+        int p = Math.abs(eighths);
+        int q = 8;
+        while (q > 1 && p % 2 == 0) {
+            p /= 2;
+            q /= 2;
+        }
+        return (eighths < 0 ? "-" : "") + p + (q > 1 ? "/" + q : "");
     }
 
     // ---- promises
@@ -222,7 +266,8 @@ final class TextBoundaries {
         b.is("type(126)", new HotGames().type(126), 1);
         for (int c : new int[] {31, 127, 0, -1, 128, 255, 256 + 48, 65536 + 48, -65536 + 48, MIN, MIN + 48, MAX}) {
             b.refused("type(" + c + ")", Check.ARGUMENT, Boundary.typed("{0"), x -> x.type(c));
-            b.refused("type(" + c + ") in a full text", Check.ARGUMENT, Boundary.typed("0".repeat(80)), x -> x.type(c));
+            b.refused("type(" + c + ") in a full text", Check.ARGUMENT, Boundary.typed("0".repeat(80)),
+                x -> x.type(c));
         }
     }
 
@@ -270,12 +315,25 @@ final class TextBoundaries {
         b.refused("a fault where there are 40 games", Check.ARGUMENT, full, HotGames::read);
     }
 
+    private void readBehindFault() {
+        b.sentence(33, "Returns the number of the game of the text.");
+        HotGames x = new HotGames();
+        b.is("a fault behind a number", Check.faultOf(x, "{3|4!"), 4);
+        b.is("another text", Check.read(x, "1"), 1);
+        b.is("it makes no more than it needs", x.games(), 10);
+        b.is("a notation that is not read", Check.faultOf(x, "{3|4}"), NONE);
+        b.is("another text", Check.read(x, "-1"), 2);
+        b.is("it makes no more than it needs", x.games(), 10);
+    }
+
     private void readOfFiveOptions() {
-        b.sentence(33, "Throws `IllegalStateException` if a game would have more than 4 options on a side, or a depth greater"
+        b.sentence(33,
+            "Throws `IllegalStateException` if a game would have more than 4 options on a side, or a depth greater"
             + " than 6, or if more than 40 games would be needed");
         b.is("four options", Check.read(new HotGames(), "{0,1,-1,2|2,-1,1,0}"), 10);
         b.is("five options of which two are the same", Check.read(new HotGames(), "{0,1,-1,2,4/4|}"), 10);
-        String[] texts = {"{0,1,-1,2,star|}", "{|0,1,-1,2,3}", "{{3,4,5,6,7|}|}", "{0|{|3,4,5,6,7}}", "{3,4,5,6,{7|}|0}"};
+        String[] texts = {"{0,1,-1,2,star|}", "{|0,1,-1,2,3}", "{{3,4,5,6,7|}|}", "{0|{|3,4,5,6,7}}",
+            "{3,4,5,6,{7|}|0}"};
         for (String text : texts) {
             b.refused("read '" + text + "'", Check.STATE, Boundary.typed(text), HotGames::read);
         }
@@ -287,7 +345,8 @@ final class TextBoundaries {
         b.is("depth 6 on the right", x.depth(Check.read(x, "{|{|{|{|{|{|}}}}}}")), 6);
         b.is("depth 6 of a name", x.depth(Check.read(x, "{{{{up|}|}|}|}")), 6);
         b.is("depth 6 of a switch", x.depth(Check.read(x, "{{{{{+-1|}|}|}|}|}")), 6);
-        String[] texts = {"{{{{{{{|}|}|}|}|}|}|}", "{|{|{|{|{|{|{|}}}}}}}", "{{{{{up|}|}|}|}|}", "{0|{{{{{+-3|}|}|}|}|}}"};
+        String[] texts = {"{{{{{{{|}|}|}|}|}|}|}", "{|{|{|{|{|{|{|}}}}}}}", "{{{{{up|}|}|}|}|}",
+            "{0|{{{{{+-3|}|}|}|}|}}"};
         for (String text : texts) {
             b.refused("read '" + text + "'", Check.STATE, Boundary.typed(text), HotGames::read);
         }
@@ -340,7 +399,8 @@ final class TextBoundaries {
         b.is("none behind it", x.written(400), NONE);
         b.refused("401 characters", Check.STATE, wide, y -> y.write(last - 1));
         b.refused("a game of both", Check.STATE, wide, y -> y.write(last));
-        b.refused("401 behind 400 characters", Check.STATE, Boundary.both(wide, y -> y.write(last - 2)), y -> y.write(last - 1));
+        b.refused("401 behind 400 characters", Check.STATE, Boundary.both(wide, y -> y.write(last - 2)),
+            y -> y.write(last - 1));
     }
 
     /** The last three games are written with 400, 401 and 804 characters. */
@@ -365,6 +425,57 @@ final class TextBoundaries {
     private static int eight(HotGames x, int[] parts, int sixth) {
         for (int k = 0; k < 8; k++) {
             x.draft(k / 4, parts[k == 6 ? sixth : k]);
+        }
+        return x.make();
+    }
+
+    /** Fillers whose lengths are known bring the text of a game with any number to 400 characters and to 401. */
+    private void longestWithEveryNumber() {
+        // a filler with the ends e and f has 49 characters and theirs
+        int[][] fixed = {{0, -11}, {8, -11}, {40, -11}, {-8, -2}, {-8, -11}, {-24, -11}};
+        int[][] last = {{0, -2}, {16, -11}, {2, -2}, {2, -11}, {-2, -11}, {-11, -13}};
+        for (int n = -64; n <= 64; n++) {
+            HotGames x = new HotGames();
+            int number = x.number(n);
+            int[] four = {4, 12, 20, 28};
+            int oneSided = n % 2 == 0 ? makeOf(x, four) : makeOf(x, new int[0], four);
+            int[] bases = {oneSided, makeOf(x, four, 8, 16, 24, -32)};
+            int[] fillers = new int[6];
+            for (int k = 0; k < 6; k++) {
+                fillers[k] = filler(x, bases, fixed[k]);
+            }
+            int rest = 5 - numberText(n).length();
+            int fits = widest(x, number, fillers, filler(x, bases, last[rest]));
+            int tooLong = widest(x, number, fillers, filler(x, bases, last[rest + 1]));
+            b.is("400 characters with " + numberText(n), x.write(fits), 400);
+            b.is("401 characters with " + numberText(n), Boundary.outcome(x, y -> y.write(tooLong)),
+                "IllegalStateException");
+        }
+    }
+
+    private static int makeOf(HotGames x, int[] left, int... right) {
+        for (int n : left) {
+            x.draft(LEFT, x.number(n));
+        }
+        for (int n : right) {
+            x.draft(RIGHT, x.number(n));
+        }
+        return x.make();
+    }
+
+    private static int filler(HotGames x, int[] bases, int[] ends) {
+        x.draft(LEFT, bases[0]);
+        x.draft(RIGHT, bases[1]);
+        x.draft(RIGHT, x.number(ends[0]));
+        x.draft(RIGHT, x.number(ends[1]));
+        return x.make();
+    }
+
+    private static int widest(HotGames x, int number, int[] fillers, int last) {
+        x.draft(LEFT, number);
+        x.draft(RIGHT, last);
+        for (int k = 0; k < 6; k++) {
+            x.draft(k / 3, fillers[k]);
         }
         return x.make();
     }

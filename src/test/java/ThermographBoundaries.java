@@ -45,7 +45,8 @@ final class ThermographBoundaries {
     // ---- terms
 
     private void optionsOfIntegers() {
-        b.sentence(0, "an integer k above 0 has the left option k - 1 and no right option, an integer k below 0 has the"
+        b.sentence(0,
+            "an integer k above 0 has the left option k - 1 and no right option, an integer k below 0 has the"
             + " right option k + 1 and no left option, 0 has none");
         HotGames x = new HotGames();
         for (int k = 1; k <= 8; k++) {
@@ -67,7 +68,8 @@ final class ThermographBoundaries {
     }
 
     private void optionsOfFractions() {
-        b.sentence(0, "any other number, p / q in lowest terms, has the left option (p - 1) / q and the right option (p +"
+        b.sentence(0,
+            "any other number, p / q in lowest terms, has the left option (p - 1) / q and the right option (p +"
             + " 1) / q");
         rightOptionIs("1/8", "1/4", "3/8");
         rightOptionIs("-1/8", "0", "1/8");
@@ -85,7 +87,8 @@ final class ThermographBoundaries {
         leftOptionIs("1/2", "0", "-1/8");
     }
 
-    /** {n,y|y} is confused with y and above all numbers below, so it is >= the right option of n if y is above that. */
+    /** {n,y|y} is confused with y and above all numbers below,
+        so it is >= the right option of n if y is above that. */
     private void rightOptionIs(String number, String due, String above) {
         for (String y : new String[] {due, above}) {
             HotGames x = new HotGames();
@@ -118,7 +121,8 @@ final class ThermographBoundaries {
     }
 
     private void fourAnswers() {
-        b.sentence(0, "Two games are equal if G >= H and H >= G; G is greater than H if only G >= H, less if only H >= G;"
+        b.sentence(0,
+            "Two games are equal if G >= H and H >= G; G is greater than H if only G >= H, less if only H >= G;"
             + " otherwise they are confused.");
         HotGames x = new HotGames();
         b.is("{|} and 0", x.compare(read(x, "{|}"), 0), 0);
@@ -131,16 +135,26 @@ final class ThermographBoundaries {
         b.is("up and the least positive number", x.compare(4, x.number(1)), 2);
         b.is("{1|-1} and its left stop", x.compare(5, 1), 3);
         b.is("{1|-1} and its right stop", x.compare(5, 2), 3);
-        b.is("{1|{2|-2}} and 1, though both stops are 1", x.compare(read(x, "{1|{2|-2}}"), 1), 1);
+        b.is("{1|{0|-2}} and its right stop, which it reaches", x.compare(read(x, "{1|{0|-2}}"), 0), 1);
+        b.is("{1|{0|-2}} and its left stop", x.compare(read(x, "{1|{0|-2}}"), 1), 3);
+        b.is("{{2|0}|-1} and its left stop, which reaches it", x.compare(8, 0), 2);
+        b.is("{{2|0}|-1} and its right stop", x.compare(8, 2), 3);
         x = new HotGames();
         b.is("up and {up|up}", x.compare(4, read(x, "{up|up}")), 3);
         b.is("star and {0,star|0}, which is up and star", x.compare(3, 9), 2);
         b.is("{0,star|0} and 0", x.compare(9, 0), 3);
         b.is("{0,star|0} and up", x.compare(9, 4), 3);
+        b.is("{2|-2} and {1|-1}", x.compare(read(x, "{2|-2}"), 5), 3);
+        b.is("the last right option decides", x.compare(read(x, "{2|1,-2}"), 5), 3);
+        b.is("the last left option decides", x.compare(5, read(x, "{-1,2|-2}")), 3);
+        b.is("{2|-1} and {1|-1}", x.compare(read(x, "{2|-1}"), 5), 1);
+        b.is("{1|-2} and {1|-1}", x.compare(read(x, "{1|-2}"), 5), 2);
+        b.is("{1,0|-1} and {1|-1}", x.compare(read(x, "{1,0|-1,0}"), 5), 0);
     }
 
     private void valuesOfGames() {
-        b.sentence(0, "A composed game has a value if it is equal to some number p / q, where q is a power of 2; the value"
+        b.sentence(0,
+            "A composed game has a value if it is equal to some number p / q, where q is a power of 2; the value"
             + " is this number then. A number is its own value. A game with a value is called cold, every other game"
             + " hot.");
         HotGames x = new HotGames();
@@ -161,6 +175,18 @@ final class ThermographBoundaries {
         cold(x, "{1|{3|1}}", 2048);
         hot(x, "{1|{3|1},1}");
         cold(x, "{{2|0}|{0|-2}}", 0);
+        x = new HotGames();
+        hot(x, "{{3|1}|{0|-2}}");
+        cold(x, "{{3|1}|2}", 1024);
+        cold(x, "{{3|1/2}|2}", 1024);
+        cold(x, "{{3|1/2}|3/4}", 512);
+        cold(x, "{1/4|{1/2|-3}}", 512);
+        cold(x, "{-3/4|{-1/2|-3}}", -512);
+        cold(x, "{{3|-1/2}|-1/4}", -512);
+        x = new HotGames();
+        cold(x, "{{3|1}|{1|-3}}", 1024);
+        hot(x, "{1,{3|1}|{1|-3}}");
+        hot(x, "{{3|1}|{1|-3},1}");
     }
 
     private void cold(HotGames x, String text, int value) {
@@ -234,7 +260,8 @@ final class ThermographBoundaries {
     }
 
     private void behindTheTemperature() {
-        b.sentence(0, "Below the temperature the left wall of G at t is a(t), and its right wall b(t); from the temperature"
+        b.sentence(0,
+            "Below the temperature the left wall of G at t is a(t), and its right wall b(t); from the temperature"
             + " on both are the mean.");
         HotGames x = new HotGames();
         int game = read(x, "{8|-8}");
@@ -370,7 +397,8 @@ final class ThermographBoundaries {
         b.is("no option of {|}", x.dominated(read(x, "{|}"), LEFT, 0), NONE);
         b.is("no other option", x.dominated(5, RIGHT, 0), NONE);
         b.is("confused ones", x.dominated(9, LEFT, 0) + x.dominated(9, LEFT, 1), 2 * NONE);
-        b.sentence(14, "a left option by another left option that is greater, or equal with a lower number; a right option"
+        b.sentence(14,
+            "a left option by another left option that is greater, or equal with a lower number; a right option"
             + " by another right option that is less, or equal with a lower number");
         int equal = read(x, "{0,{|},{-1|1},{-2|2}|0,{|},{-1|1},{-2|2}}");
         for (int i = 0; i < 4; i++) {
@@ -403,7 +431,8 @@ final class ThermographBoundaries {
             b.is("no right option " + i, x.reversible(four, RIGHT, i), NONE);
         }
         b.is("no option of a number", x.reversible(6, LEFT, 0), NONE);
-        b.sentence(15, "a left option by one of its own right options R for which the game >= R; a right option by one of"
+        b.sentence(15,
+            "a left option by one of its own right options R for which the game >= R; a right option by one of"
             + " its own left options L for which L >= the game");
         b.is("{star|} and the right option 0 of star, equal to it", x.reversible(read(x, "{star|}"), LEFT, 0), 1);
         b.is("{|star} and the left option 0 of star, equal to it", x.reversible(read(x, "{|star}"), RIGHT, 0), 1);

@@ -18,6 +18,7 @@ final class UndoBoundaries {
         otherMethodsAreNotSaved();
         latestSix();
         vanishedGames();
+        numbersGivenAgain();
         undoRefused();
         undoIsNotSaved();
         severalExceptions();
@@ -33,7 +34,8 @@ final class UndoBoundaries {
     }
 
     private void undoableMethods() {
-        b.sentence(0, "Every method that is marked \"undoable\" saves the number of games and the table, as they were before"
+        b.sentence(0,
+            "Every method that is marked \"undoable\" saves the number of games and the table, as they were before"
             + " the call, when it ends normally.");
         Boundary.Call[] calls = undoable();
         for (int k = 0; k < calls.length; k++) {
@@ -75,12 +77,13 @@ final class UndoBoundaries {
     private void otherMethodsAreNotSaved() {
         b.sentence(0, "marked \"undoable\"");
         Boundary.Call[] calls = {
-            x -> x.games(), x -> x.draft(LEFT, 0), x -> x.clearDraft(), x -> x.options(9, LEFT), x -> x.option(9, LEFT, 0),
-            x -> x.depth(9), x -> x.compare(0, 1), x -> x.isCold(0), x -> x.value(0), x -> x.dominated(9, LEFT, 0),
-            x -> x.reversible(9, LEFT, 0), x -> x.mean(9), x -> x.temperature(9), x -> x.wall(9, LEFT, 0),
-            x -> x.corner(9, LEFT, 0), x -> x.components(), x -> x.component(0), x -> x.size(), x -> x.best(LEFT),
-            x -> x.advice(LEFT, 3), x -> x.play(LEFT, 3, 3), x -> x.played(0), x -> x.type('0'), x -> x.clearText(),
-            x -> x.fault(), x -> x.write(9), x -> x.written(0), x -> x.checksum(),
+            x -> x.games(), x -> x.draft(LEFT, 0), x -> x.clearDraft(), x -> x.options(9, LEFT),
+            x -> x.option(9, LEFT, 0), x -> x.depth(9), x -> x.compare(0, 1), x -> x.isCold(0), x -> x.value(0),
+            x -> x.dominated(9, LEFT, 0), x -> x.reversible(9, LEFT, 0), x -> x.mean(9), x -> x.temperature(9),
+            x -> x.wall(9, LEFT, 0), x -> x.corner(9, LEFT, 0), x -> x.components(), x -> x.component(0),
+            x -> x.size(), x -> x.best(LEFT), x -> x.advice(LEFT, 3), x -> x.play(LEFT, 3, 3), x -> x.played(0),
+            x -> x.type('0'), x -> x.clearText(), x -> x.fault(), x -> x.write(9), x -> x.written(0),
+            x -> x.checksum(),
         };
         for (int k = 0; k < calls.length; k++) {
             HotGames x = new HotGames();
@@ -106,7 +109,8 @@ final class UndoBoundaries {
     }
 
     private void vanishedGames() {
-        b.sentence(0, "When a state is restored, the games that were made since then do not exist any more; they are removed"
+        b.sentence(0,
+            "When a state is restored, the games that were made since then do not exist any more; they are removed"
             + " from the draft, too.");
         HotGames x = new HotGames();
         x.number(3);
@@ -140,10 +144,35 @@ final class UndoBoundaries {
         b.is("the new game", full.value(39), -128);
     }
 
+    /** A number that is given again tells nothing of the game that had it before. */
+    private void numbersGivenAgain() {
+        b.sentence(0, "the games that were made since then do not exist any more");
+        String[] texts = {"{1|-1,star}", "{0|1}", "3", "{2,up|-1}", "-3", "{star|}", "{up|0,star}", "{{2|0}|-1,0}",
+            "5/8"};
+        HotGames x = new HotGames();
+        for (String text : texts) {
+            HotGames fresh = new HotGames();
+            int game = Check.read(x, text);
+            b.is(text, game, Check.read(fresh, text));
+            StringBuilder got = new StringBuilder();
+            StringBuilder due = new StringBuilder();
+            for (int g = 0; g < x.games(); g++) {
+                got.append(x.compare(g, game)).append(x.compare(game, g));
+                due.append(fresh.compare(g, game)).append(fresh.compare(game, g));
+            }
+            b.is(text + ", compared", got.toString(), due.toString());
+            b.is(text + ", all of it", x.checksum(), fresh.checksum());
+            b.is(text + ", cold or hot", x.isCold(game), fresh.isCold(game));
+            b.is(text + ", written", Check.write(x, game), Check.write(fresh, game));
+            x.undo();
+        }
+    }
+
     private void undoRefused() {
         b.sentence(36, "Throws `IllegalStateException` if none is saved");
         b.refused("at first", Check.STATE, HotGames::undo);
-        b.refused("behind as many as were saved", Check.STATE, Boundary.both(x -> x.add(0), HotGames::undo), HotGames::undo);
+        b.refused("behind as many as were saved", Check.STATE, Boundary.both(x -> x.add(0), HotGames::undo),
+            HotGames::undo);
         Boundary.Setup seven = x -> {
             for (int k = 0; k < 7; k++) {
                 x.number(k + 1);
@@ -238,6 +267,12 @@ final class UndoBoundaries {
             x.draft(RIGHT, k);
         }
         b.is("the checksum of all that is full", x.checksum(), expected(x, 80, 4, 4, 6));
+        HotGames uneven = new HotGames();
+        uneven.draft(LEFT, 3);
+        b.is("the checksum of a draft on the left", uneven.checksum(), expected(uneven, 0, 1, 0, 0));
+        uneven.clearDraft();
+        uneven.draft(RIGHT, 3);
+        b.is("the checksum of a draft on the right", uneven.checksum(), expected(uneven, 0, 0, 1, 0));
         HotGames empty = new HotGames();
         Check.lay(empty);
         b.is("the checksum of an empty table", empty.checksum(), expected(empty, 0, 0, 0, 2));

@@ -29,7 +29,29 @@ public final class FormTest {
         List<String> lines = Files.readAllLines(Path.of("src/main/java/HotGames.java"));
         words(lines);
         lengths(lines);
+        declarations(lines);
         check.end();
+    }
+
+    /** Every line of the document's face stands in the source, its exceptions in their order. */
+    private static void declarations(List<String> lines) throws IOException {
+        if (!Files.exists(Boundary.DOCUMENT)) {
+            System.out.println("form: there is no " + Boundary.DOCUMENT + ", the declarations are not looked up");
+            return;
+        }
+        String source = String.join(" ", lines).replaceAll("\\s+", " ");
+        String document = Files.readString(Boundary.DOCUMENT);
+        int found = 0;
+        for (String line : document.split("```")[1].split("\n")) {
+            String declared = line.strip();
+            if (declared.startsWith("public ")) {
+                boolean body = declared.endsWith(");") || declared.endsWith("Exception;");
+                String due = body ? declared.substring(0, declared.length() - 1) + " {" : declared;
+                check.is("the source has '" + due + "'", source.contains(due), true);
+                found++;
+            }
+        }
+        check.is("the class, its constant, its constructor and its calls", found, 3 + FACE.split(" ").length);
     }
 
     private static void face() {
